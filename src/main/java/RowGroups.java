@@ -155,7 +155,7 @@ public final class RowGroups {
         int order = 0;
         int unused = SETS - 1;
         int rest = rank;
-        // How many orders in dictionary order share the things chosen so far.
+        // How many orders share the things chosen so far: 120, 24, 6, 2, 1, 1, so it can divide.
         int block = ORDERS;
         for (int place = 0; place < THINGS; place++) {
             block /= THINGS - place;
